@@ -155,11 +155,8 @@ public final class PlankBridge {
     }
 
     public int weakestPlank() throws IllegalStateException {
-        int weakest = bridge.findWeakest(true);
-        if (weakest == NONE) {
-            throw new IllegalStateException("all planks are missing");
-        }
-        return weakest;
+        requireSomePlank();
+        return bridge.findWeakest(true);
     }
 
     public boolean isPassable() {
@@ -167,11 +164,8 @@ public final class PlankBridge {
     }
 
     public int heaviestLoad() throws IllegalStateException {
-        int weakest = bridge.findWeakest(true);
-        if (weakest == NONE) {
-            throw new IllegalStateException("all planks are missing");
-        }
-        return bridge.loadOf(weakest);
+        requireSomePlank();
+        return bridge.loadOf(bridge.findWeakest(true));
     }
 
     // ---- the lamp and the night
@@ -404,6 +398,12 @@ public final class PlankBridge {
         }
     }
 
+    private void requireSomePlank() {
+        if (bridge.findWeakest(true) == NONE) {
+            throw new IllegalStateException("all planks are missing");
+        }
+    }
+
     private void requirePlan(int plan) {
         if (plan < 0 || plan >= book.plans) {
             throw new IndexOutOfBoundsException("no such plan");
@@ -428,6 +428,8 @@ public final class PlankBridge {
         MISSING("missing"), WEAKEST("weakest");
 
         private static final Kind[] ALL = values();
+        // A one ahead of the signs keeps the byte 0 apart from a kind without a text.
+        private static final long START = 1;
 
         private final long code;
 
@@ -438,9 +440,6 @@ public final class PlankBridge {
             }
             code = sum;
         }
-
-        // A one ahead of the signs keeps the byte 0 apart from a kind without a text.
-        static final long START = 1;
 
         /** The code of a text and one more sign: eight letters of 7 bits still fit a long. */
         static long withSign(long code, int sign) {
@@ -857,29 +856,22 @@ public final class PlankBridge {
                 case DO:
                     return take(first) && takePlanName() && take(Kind.SEMICOLON);
                 case WHILE:
-                    return take(first) && takeCompares() && readInner(act, depth);
+                    return take(first) && takeCompares() && readBlockOf(act, depth, book.innerActs);
                 case IF:
-                    return take(first) && takeCompares() && readInner(act, depth)
-                            && (kind != Kind.ELSE || take(Kind.ELSE) && readElse(act, depth));
+                    return take(first) && takeCompares() && readBlockOf(act, depth, book.innerActs)
+                            && (kind != Kind.ELSE
+                            || take(Kind.ELSE) && readBlockOf(act, depth, book.elseActs));
                 default:
                     return false;
             }
         }
 
-        private boolean readInner(int act, int depth) {
+        /** Reads a block of this act, and keeps in the row which act it has first. */
+        private boolean readBlockOf(int act, int depth, int[] firstActs) {
             int actsBefore = book.acts;
             boolean fits = readBlock(act, depth + 1);
-            if (book.hasAct(act)) {
-                book.innerActs[act] = book.firstSince(actsBefore);
-            }
-            return fits;
-        }
-
-        private boolean readElse(int act, int depth) {
-            int actsBefore = book.acts;
-            boolean fits = readBlock(act, depth + 1);
-            if (book.hasAct(act)) {
-                book.elseActs[act] = book.firstSince(actsBefore);
+            if (act >= 0 && act < firstActs.length) {
+                firstActs[act] = book.firstSince(actsBefore);
             }
             return fits;
         }
@@ -1102,7 +1094,8 @@ public final class PlankBridge {
         }
 
         private int weightFor(int walker, int other) {
-            return (hasWalker(walker) ? weights[walker] : 0) + (hasWalker(other) ? weights[other] : 0);
+            int weight = hasWalker(walker) ? weights[walker] : 0;
+            return hasWalker(other) ? weight + weights[other] : weight;
         }
 
         boolean canGo(int walker, int other) {
