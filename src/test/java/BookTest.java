@@ -1,12 +1,9 @@
 /** Promises 2 to 8: the tape, the book that it tells, and its errors. */
 public final class BookTest {
 
-    private static final String FOUR = "planks 1,2,3,4;";
-    private static final String ONE = "walker a weighs 1 takes 1;" + FOUR;
+    private static final String FOUR = Books.FOUR;
+    private static final String ONE = Books.ONE;
     private static final int BLANKS = 0x20202020;
-    private static final String[] KEYWORDS = ("walker weighs takes planks plan send with rest note"
-            + " mend do while if else and fastest slowest lightest heaviest near far oil minute"
-            + " night missing weakest").split(" ");
 
     public static void main(String[] args) {
         feed();
@@ -115,7 +112,7 @@ public final class BookTest {
         Checks.due("fewestMinutes()", x.fewestMinutes(), 0);
         for (int i = 0; i < 5; i++) {
             Checks.due("teach() of 60 acts again",
-                    Checks.teach(x, FOUR + "plan p (" + acts(60) + ")"), 0);
+                    Checks.teach(x, FOUR + "plan p (" + Books.acts(60) + ")"), 0);
             Checks.due("runPlan(0) of these", x.runPlan(0), 60);
         }
         Checks.due("teach() of a plan with else", Checks.teach(x, FOUR
@@ -214,7 +211,7 @@ public final class BookTest {
         Checks.errorThere(FOUR + "plan p (while near|`far ())", 1);
         Checks.errorThere("planks 1,2,3,4|:", 1);
         Checks.errorThere("planks 1,2,3,|/4;", 1);
-        for (String keyword : KEYWORDS) {
+        for (String keyword : Books.KEYWORDS) {
             Checks.errorThere("walker |" + keyword + " weighs 1 takes 1;" + FOUR, 1);
             Checks.errorThere(FOUR + "plan |" + keyword + " ()", 1);
         }
@@ -269,18 +266,9 @@ public final class BookTest {
         Checks.errorThere(FOUR + "plan p (if 1=1 (if 1=1 (if 1=1 |;", 1);
     }
 
-    /** A book of 400 tokens, in two plans. */
-    private static String fourHundred() {
-        StringBuilder all = new StringBuilder(FOUR + "plan p (note 1;note 2;note 3;while 1=1");
-        for (int i = 0; i < 92; i++) {
-            all.append(" and 1=1");
-        }
-        return all.append(" ())plan q ()").toString();
-    }
-
     private static void manyTokens() {
         Checks.promise(4, "teach, 400 tokens");
-        String book = fourHundred();
+        String book = Books.fourHundred();
         good(book);
         good(book + "   ");
         Checks.error(book + " plan r ()", 1, book.length() + 1);
@@ -325,51 +313,27 @@ public final class BookTest {
         good(ONE + "plan p (send a with a;) plan q (do p; do p;) plan r (do p; do q;)");
     }
 
-    private static String walkers(int number) {
-        StringBuilder all = new StringBuilder();
-        for (int i = 0; i < number; i++) {
-            all.append("walker w").append((char) ('a' + i)).append(" weighs 1 takes 1;");
-        }
-        return all.toString();
-    }
-
-    private static String plans(int number) {
-        StringBuilder all = new StringBuilder();
-        for (int i = 0; i < number; i++) {
-            all.append("plan p").append((char) ('a' + i)).append("()");
-        }
-        return all.toString();
-    }
-
-    private static String acts(int number) {
-        StringBuilder all = new StringBuilder();
-        for (int i = 0; i < number; i++) {
-            all.append("rest 1;");
-        }
-        return all.toString();
-    }
-
     private static void tooMany() {
         Checks.promise(4, "teach, error 4");
-        good(walkers(8) + FOUR);
-        Checks.errorThere(walkers(8) + "walker |x weighs 1 takes 1;" + FOUR, 4);
-        Checks.errorThere(walkers(8) + "walker |x weighs 1 takes 1;walker y weighs 1 takes 1;" + FOUR, 4);
-        good(FOUR + plans(6));
-        Checks.errorThere(FOUR + plans(6) + "plan |x ()", 4);
+        good(Books.walkers(8) + FOUR);
+        Checks.errorThere(Books.walkers(8) + "walker |x weighs 1 takes 1;" + FOUR, 4);
+        Checks.errorThere(Books.walkers(8) + "walker |x weighs 1 takes 1;walker y weighs 1 takes 1;" + FOUR, 4);
+        good(FOUR + Books.plans(6));
+        Checks.errorThere(FOUR + Books.plans(6) + "plan |x ()", 4);
         good("planks 1,2,3,4,5,6,7,8,9,10,11,12;");
         Checks.errorThere("planks 1,2,3,4,5,6,7,8,9,10,11,12,|13;", 4);
         Checks.errorThere("planks 1,2,3,4,5,6,7,8,9,10,11,12,|13,14,15;", 4);
-        good(FOUR + "plan p (" + acts(60) + ")");
-        Checks.errorThere(FOUR + "plan p (" + acts(60) + "|rest 1;)", 4);
-        Checks.errorThere(FOUR + "plan p (" + acts(30) + ")plan q (" + acts(30) + "|rest 1;)", 4);
-        Checks.errorThere(FOUR + "plan p (while 1=1 and 1=1 (if 1=1 () else (" + acts(58) + "|rest 1;)))", 4);
-        good(FOUR + "plan p (while 1=1 and 1=1 (if 1=1 () else (" + acts(58) + ")))");
-        Checks.errorThere(FOUR + "plan p (" + acts(60) + ")plan q(|while 1=1 (rest 1;))", 4);
-        Checks.errorThere(FOUR + "plan p (" + acts(60) + ")plan q(|if 1=1 (rest 1;))", 4);
-        Checks.errorThere(ONE + "plan p (" + acts(60) + ")plan q(|send a;)", 4);
-        Checks.errorThere(ONE + "plan p (" + acts(60) + ")plan q(|do p;)", 4);
-        Checks.errorThere(ONE + "plan p (" + acts(60) + "|mend 1;)", 4);
-        Checks.errorThere(ONE + "plan p (" + acts(60) + "|note 1;)", 4);
+        good(FOUR + "plan p (" + Books.acts(60) + ")");
+        Checks.errorThere(FOUR + "plan p (" + Books.acts(60) + "|rest 1;)", 4);
+        Checks.errorThere(FOUR + "plan p (" + Books.acts(30) + ")plan q (" + Books.acts(30) + "|rest 1;)", 4);
+        Checks.errorThere(FOUR + "plan p (while 1=1 and 1=1 (if 1=1 () else (" + Books.acts(58) + "|rest 1;)))", 4);
+        good(FOUR + "plan p (while 1=1 and 1=1 (if 1=1 () else (" + Books.acts(58) + ")))");
+        Checks.errorThere(FOUR + "plan p (" + Books.acts(60) + ")plan q(|while 1=1 (rest 1;))", 4);
+        Checks.errorThere(FOUR + "plan p (" + Books.acts(60) + ")plan q(|if 1=1 (rest 1;))", 4);
+        Checks.errorThere(ONE + "plan p (" + Books.acts(60) + ")plan q(|send a;)", 4);
+        Checks.errorThere(ONE + "plan p (" + Books.acts(60) + ")plan q(|do p;)", 4);
+        Checks.errorThere(ONE + "plan p (" + Books.acts(60) + "|mend 1;)", 4);
+        Checks.errorThere(ONE + "plan p (" + Books.acts(60) + "|note 1;)", 4);
     }
 
     private static void numbersOutside() {
@@ -407,8 +371,8 @@ public final class BookTest {
     private static void whichErrorFirst() {
         Checks.promise(4, "teach, which error");
         // At one token the smallest number.
-        Checks.errorThere(walkers(8) + "walker |wa weighs 1 takes 1;" + FOUR, 2);
-        Checks.errorThere(FOUR + plans(6) + "plan |pa ()", 2);
+        Checks.errorThere(Books.walkers(8) + "walker |wa weighs 1 takes 1;" + FOUR, 2);
+        Checks.errorThere(FOUR + Books.plans(6) + "plan |pa ()", 2);
         Checks.errorThere("planks 1,2,3,4,5,6,7,8,9,10,11,12,|31;", 4);
         // From left to right otherwise.
         Checks.errorThere("walker a weighs |0 takes 0;walker a weighs 1 takes 1;planks 1;", 5);
@@ -416,7 +380,7 @@ public final class BookTest {
         Checks.errorThere("planks 1,2|;plan p (send x;)", 5);
         Checks.errorThere(FOUR + "plan p (send |x; rest 100;) plan p ()", 3);
         Checks.errorThere(FOUR + "plan p (rest |100; send x;) plan p ()", 5);
-        Checks.errorThere(walkers(8) + "walker |x weighs 0 takes 0;planks 0;", 4);
+        Checks.errorThere(Books.walkers(8) + "walker |x weighs 0 takes 0;planks 0;", 4);
         // Error 1 ahead of all, though it stands behind them.
         Checks.errorThere("walker a weighs 0 takes 0;walker a weighs 1 takes 1;planks 1|", 1);
         Checks.errorThere("planks 1,2,3,4;plan p (send x; do p; rest 100; |", 1);

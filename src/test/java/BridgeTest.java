@@ -38,15 +38,6 @@ public final class BridgeTest {
         return Checks.taught(FOUR_WALKERS + "planks 30,30,30,30,30;");
     }
 
-    private static String state(PlankBridge x) {
-        StringBuilder near = new StringBuilder();
-        for (int walker = 0; walker < x.walkers(); walker++) {
-            near.append(x.isNear(walker) ? 'n' : 'f');
-        }
-        return near + (x.isLampNear() ? " n " : " f ") + x.oilLeft() + " " + x.night() + ":"
-                + x.minute() + " " + Checks.strengths(x);
-    }
-
     // ---- walkers
 
     private static void walkers() {
@@ -62,7 +53,7 @@ public final class BridgeTest {
             Checks.due("isNear(" + walker + ")", x.isNear(walker), true);
         }
         x.crossTogether(1, 3);
-        Checks.due("who is near", state(x).substring(0, 4), "nfnf");
+        Checks.due("who is near", Checks.state(x).substring(0, 4), "nfnf");
         for (int walker : new int[] {-1, 4, Integer.MAX_VALUE, Integer.MIN_VALUE}) {
             Checks.promise(9, "weightOf");
             Checks.thrown("weightOf(" + walker + ")", NO_SUCH, x, () -> x.weightOf(walker));
@@ -125,22 +116,6 @@ public final class BridgeTest {
         }
     }
 
-    /** A bridge of four planks of which all are missing but the ones with a strength here. */
-    private static PlankBridge left(int a, int b, int c, int d) {
-        PlankBridge x = Checks.taught("planks 1,1,1,1;");
-        // In each weak night the next plank is rotten, and it is missing a night later.
-        x.rest(600);
-        x.rest(600);
-        x.rest(240);
-        int[] strengths = {a, b, c, d};
-        for (int plank = 0; plank < 4; plank++) {
-            if (strengths[plank] > 0) {
-                x.layPlank(plank, strengths[plank]);
-            }
-        }
-        return x;
-    }
-
     private static void missingPlanks() {
         Checks.promise(16, "missingPlanks");
         Checks.due("missingPlanks() of a new object", new PlankBridge().missingPlanks(), 0);
@@ -151,8 +126,8 @@ public final class BridgeTest {
         Checks.due("missingPlanks() in night 3", x.missingPlanks(), 1);
         x.rest(360);
         Checks.due("missingPlanks() in night 6", x.missingPlanks(), 2);
-        Checks.due("missingPlanks() of all", left(0, 0, 0, 0).missingPlanks(), 4);
-        Checks.due("missingPlanks() but the last one", left(0, 0, 0, 7).missingPlanks(), 3);
+        Checks.due("missingPlanks() of all", Books.bridge("", "", 0, 0, 0, 0).missingPlanks(), 4);
+        Checks.due("missingPlanks() but the last one", Books.bridge("", "", 0, 0, 0, 7).missingPlanks(), 3);
     }
 
     private static void weakestPlank() {
@@ -160,14 +135,14 @@ public final class BridgeTest {
         Checks.due("weakestPlank() of 9,4,3,3,8", Checks.taught("planks 9,4,3,3,8;").weakestPlank(), 2);
         Checks.due("weakestPlank() of 9,8,8,1", Checks.taught("planks 9,8,8,1;").weakestPlank(), 3);
         Checks.due("weakestPlank() of 30s", Checks.taught("planks 30,30,30,30;").weakestPlank(), 0);
-        Checks.due("weakestPlank() of 0,5,0,4", left(0, 5, 0, 4).weakestPlank(), 3);
+        Checks.due("weakestPlank() of 0,5,0,4", Books.bridge("", "", 0, 5, 0, 4).weakestPlank(), 3);
         PlankBridge x = Checks.taught("planks 3,1,2,9;");
         x.rest(240);
         Checks.due("weakestPlank() that is rotten, and by its strength", x.weakestPlank(), 1);
-        PlankBridge rotten = left(0, 0, 0, 9);
+        PlankBridge rotten = Books.bridge("", "", 0, 0, 0, 9);
         rotten.rest(240);
         Checks.due("weakestPlank() of a rotten one alone", rotten.weakestPlank(), 3);
-        PlankBridge none = left(0, 0, 0, 0);
+        PlankBridge none = Books.bridge("", "", 0, 0, 0, 0);
         Checks.thrown("weakestPlank() of none", NOT_NOW, none, () -> none.weakestPlank());
     }
 
@@ -180,20 +155,20 @@ public final class BridgeTest {
         Checks.due("heaviestLoad() in a weak night", x.heaviestLoad(), 1);
         x.layPlank(3, 2);
         Checks.due("heaviestLoad() in a weak night with 2", x.heaviestLoad(), 0);
-        Checks.due("heaviestLoad() of 0,0,6,7", left(0, 0, 6, 7).heaviestLoad(), 6);
-        PlankBridge none = left(0, 0, 0, 0);
+        Checks.due("heaviestLoad() of 0,0,6,7", Books.bridge("", "", 0, 0, 6, 7).heaviestLoad(), 6);
+        PlankBridge none = Books.bridge("", "", 0, 0, 0, 0);
         Checks.thrown("heaviestLoad() of none", NOT_NOW, none, () -> none.heaviestLoad());
     }
 
     private static void isPassable() {
         Checks.promise(18, "isPassable");
         Checks.due("isPassable() of a new object", new PlankBridge().isPassable(), true);
-        Checks.due("isPassable() of 0,5,0,4", left(0, 5, 0, 4).isPassable(), true);
-        Checks.due("isPassable() of 0,5,4,0", left(0, 5, 4, 0).isPassable(), true);
-        Checks.due("isPassable() of 0,0,5,4", left(0, 0, 5, 4).isPassable(), false);
-        Checks.due("isPassable() of 5,0,0,4", left(5, 0, 0, 4).isPassable(), false);
-        Checks.due("isPassable() of 5,4,0,0", left(5, 4, 0, 0).isPassable(), false);
-        Checks.due("isPassable() of none", left(0, 0, 0, 0).isPassable(), false);
+        Checks.due("isPassable() of 0,5,0,4", Books.bridge("", "", 0, 5, 0, 4).isPassable(), true);
+        Checks.due("isPassable() of 0,5,4,0", Books.bridge("", "", 0, 5, 4, 0).isPassable(), true);
+        Checks.due("isPassable() of 0,0,5,4", Books.bridge("", "", 0, 0, 5, 4).isPassable(), false);
+        Checks.due("isPassable() of 5,0,0,4", Books.bridge("", "", 5, 0, 0, 4).isPassable(), false);
+        Checks.due("isPassable() of 5,4,0,0", Books.bridge("", "", 5, 4, 0, 0).isPassable(), false);
+        Checks.due("isPassable() of none", Books.bridge("", "", 0, 0, 0, 0).isPassable(), false);
     }
 
     // ---- the lamp and the night
@@ -278,11 +253,11 @@ public final class BridgeTest {
         Checks.promise(25, "crossAlone");
         PlankBridge x = Checks.taught("walker a weighs 3 takes 4;walker b weighs 1 takes 3;planks 9,9,9,9;");
         Checks.due("crossAlone(0)", x.crossAlone(0), true);
-        Checks.due("behind it", state(x), "fn f 56 0:4 9,9,9,9");
+        Checks.due("behind it", Checks.state(x), "fn f 56 0:4 9,9,9,9");
         Checks.due("crossAlone(0) back", x.crossAlone(0), true);
-        Checks.due("behind it", state(x), "nn n 52 0:8 9,9,9,9");
+        Checks.due("behind it", Checks.state(x), "nn n 52 0:8 9,9,9,9");
         Checks.due("crossAlone(1)", x.crossAlone(1), true);
-        Checks.due("behind it", state(x), "nf f 49 0:11 9,9,9,9");
+        Checks.due("behind it", Checks.state(x), "nf f 49 0:11 9,9,9,9");
         for (int walker : new int[] {-1, 2, Integer.MAX_VALUE, Integer.MIN_VALUE}) {
             Checks.thrown("crossAlone(" + walker + ")", NO_SUCH, x, () -> x.crossAlone(walker));
         }
@@ -295,11 +270,11 @@ public final class BridgeTest {
         Checks.promise(25, "crossAlone, planks");
         PlankBridge x = Checks.taught("walker a weighs 5 takes 3;planks 10,9,5,10,4,11;");
         x.crossAlone(0);
-        Checks.due("behind a crossing", state(x), "f f 57 0:3 10,8,4,10,0,11");
+        Checks.due("behind a crossing", Checks.state(x), "f f 57 0:3 10,8,4,10,0,11");
         x.crossAlone(0);
-        Checks.due("behind the way back", state(x), "n n 54 0:6 10,7,0,10,0,11");
+        Checks.due("behind the way back", Checks.state(x), "n n 54 0:6 10,7,0,10,0,11");
         x.crossAlone(0);
-        Checks.due("behind the third one", state(x), "f f 51 0:9 10,6,0,10,0,11");
+        Checks.due("behind the third one", Checks.state(x), "f f 51 0:9 10,6,0,10,0,11");
         PlankBridge one = Checks.taught("walker a weighs 1 takes 1;planks 1,2,1,3;");
         one.crossAlone(0);
         Checks.due("the strength 1 stays", Checks.strengths(one), "1,2,1,3");
@@ -315,7 +290,7 @@ public final class BridgeTest {
         Checks.promise(25, "crossAlone, falls");
         PlankBridge x = Checks.taught("walker a weighs 9 takes 7;planks 5,5,30,5;");
         Checks.due("crossAlone(0)", x.crossAlone(0), false);
-        Checks.due("behind a fall from near", state(x), "n n 53 0:7 0,0,30,5");
+        Checks.due("behind a fall from near", Checks.state(x), "n n 53 0:7 0,0,30,5");
         Checks.thrown("crossAlone(0) now", NOT_NOW, x, () -> x.crossAlone(0));
         PlankBridge y = Checks.taught("walker a weighs 9 takes 7;planks 30,30,30,30;");
         y.crossAlone(0);
@@ -323,7 +298,7 @@ public final class BridgeTest {
         y.layPlank(1, 5);
         y.layPlank(3, 5);
         Checks.due("crossAlone(0) back", y.crossAlone(0), false);
-        Checks.due("behind a fall from far", state(y), "f f 46 0:14 0,0,30,0");
+        Checks.due("behind a fall from far", Checks.state(y), "f f 46 0:14 0,0,30,0");
         // The way from far comes to the broken pair first, and not to what lies behind it.
         PlankBridge z = Checks.taught("walker a weighs 9 takes 7;planks 30,30,30,30,30;");
         z.crossAlone(0);
@@ -335,12 +310,12 @@ public final class BridgeTest {
         // Two break; then one does beside another that was missing before.
         PlankBridge v = Checks.taught("walker a weighs 5 takes 1;walker b weighs 1 takes 1;planks 9,4,5,9;");
         v.crossTogether(0, 1);
-        Checks.due("behind one that broke, and one beside it", state(v), "nn n 59 0:1 8,0,0,9");
+        Checks.due("behind one that broke, and one beside it", Checks.state(v), "nn n 59 0:1 8,0,0,9");
         PlankBridge u = Checks.taught("walker a weighs 5 takes 1;planks 9,4,5,9;");
         Checks.due("crossAlone(0)", u.crossAlone(0), true);
-        Checks.due("behind it", state(u), "f f 59 0:1 8,0,4,8");
+        Checks.due("behind it", Checks.state(u), "f f 59 0:1 8,0,4,8");
         Checks.due("crossAlone(0) back, with one missing before", u.crossAlone(0), false);
-        Checks.due("behind it", state(u), "f f 58 0:2 8,0,0,7");
+        Checks.due("behind it", Checks.state(u), "f f 58 0:2 8,0,0,7");
     }
 
     private static void weakNightCrossings() {
@@ -388,21 +363,21 @@ public final class BridgeTest {
         PlankBridge y = Checks.taught("walker a weighs 1 takes 20;planks 9,9,9,9;");
         y.rest(100);
         Checks.due("crossAlone(0) at the minute 100", y.crossAlone(0), true);
-        Checks.due("behind it", state(y), "f f 60 1:0 9,9,9,9");
+        Checks.due("behind it", Checks.state(y), "f f 60 1:0 9,9,9,9");
         PlankBridge z = Checks.taught("walker a weighs 9 takes 20;planks 1,1,9,9;");
         z.rest(220);
         Checks.due("crossAlone(0) with a fall at the end", z.crossAlone(0), false);
-        Checks.due("behind it", state(z), "n n 60 2:0 0,0,9r,9");
+        Checks.due("behind it", Checks.state(z), "n n 60 2:0 0,0,9r,9");
     }
 
     private static void crossTogether() {
         Checks.promise(26, "crossTogether");
         PlankBridge x = Checks.taught(FOUR_WALKERS + "planks 14,13,7,30,6;");
         Checks.due("crossTogether(1, 0)", x.crossTogether(1, 0), true);
-        Checks.due("behind it", state(x), "ffnn f 58 0:2 14,12,6,30,0");
+        Checks.due("behind it", Checks.state(x), "ffnn f 58 0:2 14,12,6,30,0");
         Checks.due("crossAlone(0)", x.crossAlone(0), true);
         Checks.due("crossTogether(2, 3) falls", x.crossTogether(2, 3), false);
-        Checks.due("behind it", state(x), "nfnn n 37 0:23 13,0,0,30,0");
+        Checks.due("behind it", Checks.state(x), "nfnn n 37 0:23 13,0,0,30,0");
         Checks.thrown("crossTogether(0, 2) that cannot be made", NOT_NOW, x, () -> x.crossTogether(0, 2));
         PlankBridge y = strong();
         int[][] none = {{-1, 0}, {0, -1}, {4, 0}, {0, 4}, {4, 4}, {-1, -1}, {7, 9}};
@@ -417,7 +392,7 @@ public final class BridgeTest {
         Checks.thrown("crossTogether(1, 3) apart", NOT_NOW, y, () -> y.crossTogether(1, 3));
         Checks.thrown("crossTogether(3, 1) apart", NOT_NOW, y, () -> y.crossTogether(3, 1));
         Checks.due("crossTogether(1, 2) back", y.crossTogether(1, 2), true);
-        Checks.due("behind it", state(y), "nnnn n 50 0:10 30,30,30,30,30");
+        Checks.due("behind it", Checks.state(y), "nnnn n 50 0:10 30,30,30,30,30");
         y.rest(91);
         Checks.thrown("crossTogether(0, 3) at the minute 101", NOT_NOW, y, () -> y.crossTogether(3, 0));
         Checks.due("crossTogether(0, 2) at the minute 101", y.crossTogether(0, 2), true);

@@ -1,5 +1,8 @@
 import java.nio.charset.StandardCharsets;
 import java.util.Arrays;
+import java.util.function.Consumer;
+import java.util.function.Function;
+import java.util.function.Supplier;
 
 /** What the tests share: asking for an answer or an exception, and teaching a book by its text. */
 final class Checks {
@@ -20,6 +23,10 @@ final class Checks {
         promise = text;
     }
 
+    static int asked() {
+        return asked;
+    }
+
     static void due(String call, Object got, Object want) {
         asked++;
         if (!want.equals(got)) {
@@ -35,6 +42,25 @@ final class Checks {
         due(call, nameOfThrown(run), want.getSimpleName());
         due("digest() behind " + call, x.digest(), digest);
         due("errorAt() behind " + call, x.errorAt(), error);
+    }
+
+    /**
+     * The call has to throw exactly this exception, and to change nothing: behind it the object
+     * answers all as another one does, which is made the same way and gets no such call.
+     */
+    static void refused(String call, Class<?> want, Supplier<PlankBridge> make,
+            Consumer<PlankBridge> run) {
+        PlankBridge x = make.get();
+        due(call, nameOfThrown(() -> run.accept(x)), want.getSimpleName());
+        due("all that is answered behind " + call, Answers.of(x), Answers.of(make.get()));
+    }
+
+    /** The call has to answer this, and to change nothing. */
+    static void answered(String call, Object want, Supplier<PlankBridge> make,
+            Function<PlankBridge, Object> ask) {
+        PlankBridge x = make.get();
+        due(call, ask.apply(x), want);
+        due("all that is answered behind " + call, Answers.of(x), Answers.of(make.get()));
     }
 
     static String nameOfThrown(Runnable run) {
@@ -110,6 +136,25 @@ final class Checks {
         for (int plank = 0; plank < x.planks(); plank++) {
             all.append(plank > 0 ? "," : "").append(x.strengthOf(plank))
                     .append(x.isRotten(plank) ? "r" : "");
+        }
+        return all.toString();
+    }
+
+    /** Who is near, the lamp's side and oil, the night and the minute, and the planks. */
+    static String state(PlankBridge x) {
+        StringBuilder near = new StringBuilder();
+        for (int walker = 0; walker < x.walkers(); walker++) {
+            near.append(x.isNear(walker) ? 'n' : 'f');
+        }
+        return near + (x.isLampNear() ? " n " : " f ") + x.oilLeft() + " " + x.night() + ":"
+                + x.minute() + " " + strengths(x);
+    }
+
+    /** All notes that are kept, the first one ahead. */
+    static String notes(PlankBridge x) {
+        StringBuilder all = new StringBuilder();
+        for (int back = Math.min(10, x.notes()) - 1; back >= 0; back--) {
+            all.append(x.noteOf(back)).append(back > 0 ? " " : "");
         }
         return all.toString();
     }

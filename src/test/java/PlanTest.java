@@ -33,22 +33,13 @@ public final class PlanTest {
         return Checks.taught(THREE + STRONG + plans);
     }
 
-    /** All notes that are kept, the first one ahead. */
-    private static String notesOf(PlankBridge x) {
-        StringBuilder all = new StringBuilder();
-        for (int back = Math.min(10, x.notes()) - 1; back >= 0; back--) {
-            all.append(x.noteOf(back)).append(back > 0 ? " " : "");
-        }
-        return all.toString();
-    }
-
     /** The acts that this block does on a new bridge of three walkers, and what it notes. */
     private static void run(String block, int acts, String notes) {
         PlankBridge x = with("plan p " + block);
         Checks.due("actsOfPlan(0) of " + block, x.actsOfPlan(0), acts);
         Checks.due("notes() behind it", x.notes(), 0);
         Checks.due("runPlan(0) of " + block, x.runPlan(0), acts);
-        Checks.due("the notes of " + block, notesOf(x), notes);
+        Checks.due("the notes of " + block, Checks.notes(x), notes);
     }
 
     private static void runPlan() {
@@ -83,11 +74,11 @@ public final class PlanTest {
         PlankBridge x = with("plan p (note 1; mend 5;) plan q (note 2; do p; note 3;)"
                 + "plan r (note 4;)");
         Checks.due("runPlan(1) with a do that ends the run", x.runPlan(1), 3);
-        Checks.due("the notes", notesOf(x), "2 1");
+        Checks.due("the notes", Checks.notes(x), "2 1");
         Checks.due("runPlan(0) behind it", x.runPlan(0), 1);
         Checks.due("runPlan(1) again", x.runPlan(1), 3);
         Checks.due("runPlan(2) behind it", x.runPlan(2), 1);
-        Checks.due("the notes", notesOf(x), "2 1 1 2 1 4");
+        Checks.due("the notes", Checks.notes(x), "2 1 1 2 1 4");
     }
 
     private static void hundredActs() {
@@ -111,7 +102,7 @@ public final class PlanTest {
                 + "plan q (do p;do p;do p;do p;do p;) plan r (do q;do q;do q;)");
         Checks.due("runPlan(1)", v.runPlan(1), 50);
         Checks.due("runPlan(2)", v.runPlan(2), 100);
-        Checks.due("the notes", notesOf(v), "7 8 9 1 2 3 4 5 6 7");
+        Checks.due("the notes", Checks.notes(v), "7 8 9 1 2 3 4 5 6 7");
         Checks.due("notes()", v.notes(), 45 + 45 + 36 + 7);
         // Just 100, with the end of the plan.
         PlankBridge u = with("plan p (note 1;note 2;note 3;note 4;) plan q (do p;do p;do p;do p;do p;"
@@ -128,11 +119,11 @@ public final class PlanTest {
         Checks.due("runPlan(0)", x.runPlan(0), 0);
         Checks.due("runPlan(1)", x.runPlan(1), 4);
         Checks.due("runPlan(2)", x.runPlan(2), 11);
-        Checks.due("the notes so far", notesOf(x), "1 1 2 1");
+        Checks.due("the notes so far", Checks.notes(x), "1 1 2 1");
         Checks.due("runPlan(3)", x.runPlan(3), 14);
         Checks.due("runPlan(4)", x.runPlan(4), 16);
         Checks.due("runPlan(5)", x.runPlan(5), 1 + 17 + 2 + 1 + 1);
-        Checks.due("the notes", notesOf(x), "2 1 3 4 1 2 1 3 4 5");
+        Checks.due("the notes", Checks.notes(x), "2 1 3 4 1 2 1 3 4 5");
     }
 
     private static void whileAct() {
@@ -180,21 +171,21 @@ public final class PlanTest {
                 + "walker c weighs 1 takes 1;planks 20,3,9,2,8;"
                 + "plan p (note near;note far;note oil;note minute;note night;note missing;note weakest;)");
         Checks.due("runPlan(0)", x.runPlan(0), 7);
-        Checks.due("the notes", notesOf(x), "3 0 60 0 0 0 2");
+        Checks.due("the notes", Checks.notes(x), "3 0 60 0 0 0 2");
         x.crossAlone(0);
         x.rest(10);
         x.runPlan(0);
-        Checks.due("the notes behind a crossing", notesOf(x).substring(6), "2 1 53 17 0 2 8");
+        Checks.due("the notes behind a crossing", Checks.notes(x).substring(6), "2 1 53 17 0 2 8");
         x.rest(113);
         x.rest(240);
         x.runPlan(0);
-        Checks.due("the notes in night 3", notesOf(x).substring(6), "2 1 60 10 3 2 7");
+        Checks.due("the notes in night 3", Checks.notes(x).substring(6), "2 1 60 10 3 2 7");
         PlankBridge y = Checks.taught("planks 1,1,1,1; plan p (note weakest; note missing;)");
         y.rest(600);
         y.rest(600);
         y.rest(240);
         y.runPlan(0);
-        Checks.due("weakest and missing, of none", notesOf(y), "0 4");
+        Checks.due("weakest and missing, of none", Checks.notes(y), "0 4");
     }
 
     private static void choices() {
@@ -266,7 +257,7 @@ public final class PlanTest {
         PlankBridge fall = Checks.taught("walker a weighs 9 takes 4;planks 9,1,1,9;"
                 + "plan p (send a; note minute; note far; send a; note 9;)");
         Checks.due("a fall is done, and the next one cannot be made", fall.runPlan(0), 3);
-        Checks.due("the notes", notesOf(fall), "4 0");
+        Checks.due("the notes", Checks.notes(fall), "4 0");
         Checks.due("falls()", fall.falls(), 1);
         Checks.due("isLampNear()", fall.isLampNear(), true);
         PlankBridge oil = Checks.taught("walker a weighs 1 takes 20;" + STRONG
