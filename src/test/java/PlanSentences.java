@@ -73,6 +73,11 @@ final class PlanSentences {
         run("plan p (mend 5; note 2;)", 0, "");
         run("plan p (if 1=1 (while 1=1 (note 1; mend 5; note 2;) note 3;) note 4;)", 3, "1");
         run("plan o (note 1; mend 5;) plan p (note 2; do o; note 3;)", 3, "2 1");
+        // Nothing of such a run is left for the next one.
+        PlankBridge next = with("plan o (note 1; mend 5;) plan p (note 2; do o; note 3;) plan q (note 4;)");
+        Checks.due("runPlan(1)", next.runPlan(1), 3);
+        Checks.due("runPlan(2)", next.runPlan(2), 1);
+        Checks.due("the notes", Checks.notes(next), "2 1 4");
         Sentences.says("or as 100 acts were done.");
         // A look and a note by turns, so that the 100th act is a note; then a look.
         run("plan p (while 1=1 (note oil;))", 100, "60 60 60 60 60 60 60 60 60 60");
@@ -240,6 +245,12 @@ final class PlanSentences {
         Checks.due("behind it", Checks.strengths(x), "7,30,8,1,0,9");
         Checks.due("runPlan(5)", x.runPlan(5), 3);
         Checks.due("behind it", Checks.strengths(x), "7,30,8,1,1,9");
+        PlankBridge first = Books.bridge("", plans, 0, 7, 0, 8);
+        Checks.due("runPlan(0)", first.runPlan(0), 1);
+        Checks.due("behind it", Checks.strengths(first), "30,7,0,8");
+        PlankBridge last = Books.bridge("", plans, 9, 7, 9, 0);
+        Checks.due("runPlan(0)", last.runPlan(0), 1);
+        Checks.due("behind it", Checks.strengths(last), "9,7,9,30");
         PlankBridge rotten = Checks.taught("planks 9,1,9,9; plan p (mend 5;)");
         rotten.rest(360);
         Checks.due("a rotten one is missing", Checks.strengths(rotten), "9,0,9,9");

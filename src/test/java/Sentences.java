@@ -17,7 +17,8 @@ final class Sentences {
     private static final List<List<String>> LINES = new ArrayList<>();
     private static final List<boolean[]> QUOTED = new ArrayList<>();
 
-    private static int current = 0;
+    private static String title = "";
+    private static int current = -1;
     private static String latest = "";
     private static int askedBefore = 0;
 
@@ -25,6 +26,10 @@ final class Sentences {
     }
 
     static void read() throws IOException {
+        if (!Files.exists(DOCUMENT)) {
+            System.out.println("no document there: the quotes are not compared with it");
+            return;
+        }
         for (String line : Files.readAllLines(DOCUMENT)) {
             if (line.startsWith("#") || line.startsWith("== ")) {
                 HEADINGS.add(line.replaceFirst("^[#=]+ ", ""));
@@ -43,14 +48,15 @@ final class Sentences {
     /** The following quotes stand under this heading. */
     static void under(String heading) {
         endQuote();
+        title = heading;
         current = HEADINGS.indexOf(heading);
-        if (current < 0) {
+        if (current < 0 && !HEADINGS.isEmpty()) {
             throw new IllegalStateException("no heading " + heading);
         }
     }
 
     static List<String> lines() {
-        return LINES.get(current);
+        return current < 0 ? List.of() : LINES.get(current);
     }
 
     /** The following checks are about these words, which follow each other or belong together. */
@@ -59,7 +65,7 @@ final class Sentences {
         for (String quote : quotes) {
             mark(quote);
         }
-        latest = HEADINGS.get(current) + ": \"" + String.join("\" \"", quotes) + "\"";
+        latest = title + ": \"" + String.join("\" \"", quotes) + "\"";
         askedBefore = Checks.asked();
         Checks.about(latest);
     }
@@ -88,10 +94,13 @@ final class Sentences {
     }
 
     private static void mark(String quote) {
+        if (current < 0) {
+            return;
+        }
         String text = TEXTS.get(current).toString();
         int at = text.indexOf(quote);
         if (at < 0) {
-            throw new IllegalStateException(HEADINGS.get(current) + " does not say: " + quote);
+            throw new IllegalStateException(title + " does not say: " + quote);
         }
         for (; at >= 0; at = text.indexOf(quote, at + 1)) {
             for (int i = at; i < at + quote.length(); i++) {

@@ -211,6 +211,7 @@ final class StateSentences {
             Books.walkers(8) + Books.planks(12) + Books.plans(6), Books.fourHundred()};
         for (String book : books) {
             PlankBridge x = Books.worn();
+            Answers.now(x);
             Checks.due("teach() of " + book, Checks.teach(x, book), 0);
             Checks.due("all that is answered", Answers.of(x), Answers.of(Checks.taught(book)));
             PlankBridge again = Checks.taught(book);
@@ -218,6 +219,13 @@ final class StateSentences {
             again.layPlank(2, 17);
             Checks.teach(again, book);
             Checks.due("all that is answered behind the same book", Answers.of(again),
+                    Answers.of(Checks.taught(book)));
+            PlankBridge often = Checks.taught(Books.walkers(8) + Books.planks(12) + Books.plans(6));
+            for (String text : new String[] {Books.FOUR + "plan p (" + Books.acts(60) + ")", "#",
+                Books.FOUR + "plan z (do z;)", Books.FOUR + "plan p (if 1=1 () else (note 1;))", book}) {
+                Checks.teach(often, text);
+            }
+            Checks.due("all that is answered behind many books", Answers.of(often),
                     Answers.of(Checks.taught(book)));
         }
         PlankBridge rotten = Checks.taught("planks 1,9,9,9;");
@@ -446,12 +454,20 @@ final class StateSentences {
         PlankBridge rotten = Books.bridge("", "", 0, 5, 4, 0);
         rotten.rest(240);
         Checks.due("weakestPlank(), which is rotten", rotten.weakestPlank(), 2);
+        Checks.due("weakestPlank() of one left, which is rotten", onlyRotten().weakestPlank(), 3);
         Sentences.says("Throws `IllegalStateException` if all are missing");
         Checks.refused("weakestPlank() of four missing", NOT_NOW, () -> Books.bridge("", "", 0, 0, 0, 0),
                 x -> x.weakestPlank());
         Checks.refused("weakestPlank() of twelve missing", NOT_NOW, () -> Books.bridge("", "", new int[12]),
                 x -> x.weakestPlank());
         Checks.due("weakestPlank() with one again", Books.bridge("", "", 0, 0, 1, 0).weakestPlank(), 2);
+    }
+
+    /** Only the last plank is left, of the strength 8, in a night that is not weak. */
+    private static PlankBridge onlyRotten() {
+        PlankBridge x = Books.bridge("", "", 0, 0, 0, 9);
+        x.rest(360);
+        return x;
     }
 
     private static void isPassable() {
@@ -472,6 +488,10 @@ final class StateSentences {
         Checks.due("heaviestLoad() of a new object", new PlankBridge().heaviestLoad(), 10);
         Checks.due("heaviestLoad() of 9,4,30,5", Checks.taught("planks 9,4,30,5;").heaviestLoad(), 4);
         Checks.due("heaviestLoad() of 0,6,0,7", Books.bridge("", "", 0, 6, 0, 7).heaviestLoad(), 6);
+        Checks.due("heaviestLoad() of one left, which is rotten", onlyRotten().heaviestLoad(), 8);
+        PlankBridge rotten = Checks.taught("planks 9,8,8,9;");
+        rotten.rest(360);
+        Checks.due("heaviestLoad() of 9,7,8,9 with the 7 rotten", rotten.heaviestLoad(), 7);
         Checks.due("heaviestLoad() of 30s on a weak night",
                 Books.weakNight("", "", 30, 30, 30, 30).heaviestLoad(), 27);
         Checks.due("heaviestLoad() of 4 on a weak night", Books.weakNight("", "", 9, 0, 4, 9).heaviestLoad(), 1);

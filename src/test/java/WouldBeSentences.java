@@ -239,7 +239,18 @@ final class WouldBeSentences {
         PlankBridge far = planned();
         far.crossAlone(1);
         Checks.due("actsOfPlan(0) with b far", far.actsOfPlan(0), 0);
+        // The rotten plank goes on to rot in it, from 2 to 0: three looks, and two nights of two acts.
+        Checks.answered("actsOfPlan(0) with a rotten plank", 7, WouldBeSentences::rotten,
+                x -> x.actsOfPlan(0));
         StateSentences.noSuchPlan("actsOfPlan", (x, plan) -> x.actsOfPlan(plan));
+    }
+
+    private static PlankBridge rotten() {
+        PlankBridge x = Checks.taught(Books.people(1, 1) + "planks 9,2,9,9;"
+                + "plan p (while missing=0 (rest 99; rest 21;))"
+                + "plan q (while missing=0 (rest 99; rest 21;) send a;)");
+        x.rest(240);
+        return x;
     }
 
     private static void farBehindPlan() {
@@ -257,6 +268,8 @@ final class WouldBeSentences {
         Checks.due("farBehindPlan(4) with b far", far.farBehindPlan(4), 1);
         PlankBridge fall = Checks.taught(Books.people(9, 4) + "planks 9,1,1,9;plan p (send a;)");
         Checks.due("farBehindPlan(0) with a fall", fall.farBehindPlan(0), 0);
+        Checks.answered("farBehindPlan(1) with a rotten plank", 1, WouldBeSentences::rotten,
+                x -> x.farBehindPlan(1));
         StateSentences.noSuchPlan("farBehindPlan", (x, plan) -> x.farBehindPlan(plan));
     }
 
@@ -275,6 +288,8 @@ final class WouldBeSentences {
         PlankBridge late = Checks.taught(Books.people(1, 4) + "planks 9,9,9,9;plan p (send a; rest 1;)");
         late.rest(116);
         Checks.due("minutesOfPlan(0) into the next night", late.minutesOfPlan(0), 5);
+        Checks.answered("minutesOfPlan(1) with a rotten plank", 241, WouldBeSentences::rotten,
+                x -> x.minutesOfPlan(1));
         StateSentences.noSuchPlan("minutesOfPlan", (x, plan) -> x.minutesOfPlan(plan));
     }
 
