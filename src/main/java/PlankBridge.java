@@ -1011,7 +1011,9 @@ public final class PlankBridge {
             near = other.near;
             planks = other.planks;
             System.arraycopy(other.strengths, 0, strengths, 0, MOST_PLANKS);
-            System.arraycopy(other.rotten, 0, rotten, 0, MOST_PLANKS);
+            for (int plank = 0; plank < MOST_PLANKS; plank++) {
+                rotten[plank] = other.rotten[plank];
+            }
             lampNear = other.lampNear;
             oil = other.oil;
             night = other.night;
